@@ -728,7 +728,47 @@ public final class ModelTest {
         }
     }
 
+    /** Houses of few frames and many comings, where it often takes two turns, or two do not do. */
+    private static void smallHouses() {
+        CrookedFrames x = new CrookedFrames();
+        int[] answers = new int[4];
+        for (int run = 0; run < 1200; run++) {
+            random = new Random(run);
+            // One object for four houses: what calls leave behind is met by houses of all sizes.
+            x = run % 4 == 0 ? new CrookedFrames() : x;
+            ModelTest y = new ModelTest();
+            int frames = 1 + few(2);
+            int persons = 2 + few(3);
+            int rooms = few(1);
+            StringBuilder b = new StringBuilder();
+            for (int k = 0; k < frames; k++) {
+                b.append(item("f", few(rooms), run % 2 == 0 ? 12 + few(16) : few(40)));
+            }
+            for (int i = 0; i < persons; i++) {
+                b.append(item("p", few(3), few(20)));
+            }
+            for (int n = 0; n < 10; n++) {
+                b.append(item("w", few(persons - 1), few(23), few(rooms)));
+            }
+            x.wipe();
+            Due.write(x, b.toString());
+            x.lay();
+            y.text = b.toString();
+            y.lay();
+            int set = 1 + few((1 << persons) - 2);
+            int got = x.fewest(set, 0);
+            answers[got == NONE ? 3 : got]++;
+            Due.is("fewest(" + set + ", 0) of " + b, got, y.fewest(set, 0));
+            Due.is("safe(0) of " + b, x.safe(0), y.safe(0));
+        }
+        for (int n = 0; n < 4; n++) {
+            Due.is("answers of each sort", answers[n] > 50 ? 1 : answers[n], 1);
+        }
+        System.out.println("fewest: " + java.util.Arrays.toString(answers));
+    }
+
     public static void main(String[] args) {
+        smallHouses();
         for (int run = 0; run < 1500; run++) {
             random = new Random(run);
             CrookedFrames x = new CrookedFrames();

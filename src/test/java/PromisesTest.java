@@ -351,6 +351,8 @@ public final class PromisesTest {
         Due.is("sways at first alone", Due.laid("f0,30;n0,0,21;").sways(), 0);
         Due.is("sways of the last day", Due.laid("f0,30;f0,30;n30,1,21;").sways(), 1);
         Due.is("sways for a day", Due.laid("f0,30;f0,30;n4,0,21;n5,0,19;n6,1,20;").sways(), 1);
+        Due.is("sways at first", Due.laid("f0,30;n1,0,21;n2,0,19;").sways(), 1);
+        Due.is("sways on day 1 alone", Due.laid("f0,30;n0,0,21;n1,0,19;").sways(), 1);
         Due.is("sways, all", Due.laid("f0,0;f0,1;f0,2;t0,6;t1,6;t2,6;").sways(), 3);
         Due.is("sways of the first house", new CrookedFrames().sways(), 3);
     }
@@ -524,6 +526,9 @@ public final class PromisesTest {
         Due.is("hang(1)", x.hang(1), 4);
         Due.is("hang(2)", x.hang(2), BAD);
         Due.is("hang(-1)", x.hang(-1), BAD);
+        CrookedFrames one = Due.laid("f0,40;p0,5;w0,0,0;");
+        Due.is("one coming", one.hang(0), 15);
+        Due.is("one coming", one.hang(1), 1);
         CrookedFrames calm = Due.laid("f0,40;f1,0;p0,20;p0,0;w0,0,0;t0,10;n0,0,40;");
         Due.is("as told", calm.hang(0), 0);
         Due.is("as told", calm.hang(1), 0);
@@ -617,6 +622,16 @@ public final class PromisesTest {
         x.forget();
         x.seen(40, 40);
         Due.is("lazy, 10 to 20", x.look(3, 0), 0);
+        x.forget();
+        x.seen(39, 39);
+        Due.is("19 or 20", x.look(0, 0), 20);
+        Due.is("19 or 20, how many", x.look(0, 1), 1);
+        x.forget();
+        x.seen(22, 20);
+        Due.is("0 or 1", x.look(0, 0), 1);
+        Due.is("0 or 1, how many", x.look(0, 1), 1);
+        x.forget();
+        x.seen(40, 40);
         Due.is("lazy, 10 to 20, how many", x.look(3, 1), 11);
     }
 
@@ -633,7 +648,8 @@ public final class PromisesTest {
         Due.is("20 below to 5 below", x.who(0, 15), 16);
         Due.is("20 below to 10", x.who(0, 30), 4);
         Due.is("3 to 0", x.who(23, 20), 0);
-        Due.is("40 to 0", x.who(40, 0), 0);
+        Due.is("20 to 20 below", x.who(40, 0), 0);
+        Due.is("20 below to 20", x.who(0, 40), 0);
         Due.is("nobody there", Due.laid("f0,0;").who(40, 20), 0);
     }
 
@@ -714,22 +730,26 @@ public final class PromisesTest {
     }
 
     private static void night() {
-        CrookedFrames x = Due.laid("f0,20;");
+        CrookedFrames x = Due.laid("f0,25;t0,7;");
         int[][] wrong = {{10000, 0}, {-1, 0}, {0, 2}, {0, -1}};
         for (int[] w : wrong) {
             Due.is("night, wrong", x.night(w[0], w[1]), BAD);
         }
         int[] zs = {0, 1, 77, 5000, 9999};
         for (int z : zs) {
-            int at = 0;
+            int at = 5;
             for (int d = 0; d <= 30; d++) {
                 long q = 7919L * z + 6151L * d + 1;
                 int draw = (int) (q * q % 65521);
+                at = Math.min(40, at + 2);
                 at = Math.max(-40, Math.min(40, at + draw / 8 % 41 - 20));
             }
             Due.is("night(" + z + ", 1)", x.night(z, 1), at + 40);
             Due.is("night(" + z + ", 0)", x.night(z, 0), 0);
         }
+        // It ends somewhere else if a night begins where the last one ended.
+        CrookedFrames still = Due.laid("f0,25;f1,20;f1,20;f1,20;f1,20;f1,20;f1,20;");
+        Due.is("night, twice alike", still.night(8, 1), still.night(8, 1));
         // Each person is counted on each day; turns that were told play no part.
         CrookedFrames both = Due.laid("f0,40;p1,0;p1,0;w0,0,0;w1,1,0;n0,0,0;n1,0,0;");
         int often = 0;
