@@ -829,6 +829,7 @@ public final class CrookedFrames {
 
         /** Who is hers by all single turns together. */
         int anybodyByOne(House house, int[] morning) {
+            findAlike(house);
             reachAll(house, morning);
             int won = 0;
             for (int k = 0; k < house.frames; k++) {
@@ -841,6 +842,7 @@ public final class CrookedFrames {
 
         /** FEWEST of a set that is not hers without a turn more. */
         int oneOrTwo(House house, int[] morning, int set) {
+            findAlike(house);
             reachAll(house, morning);
             for (int k = 0; k < house.frames; k++) {
                 if (isWonByReached(house, morning, k, set)) {
@@ -894,7 +896,6 @@ public final class CrookedFrames {
         }
 
         private void reachAll(House house, int[] morning) {
-            findAlike(house);
             for (int k = 0; k < house.frames; k++) {
                 reach(house, morning[k], k, MOST_TURNED);
             }

@@ -16,6 +16,14 @@ final class Due {
         }
     }
 
+    /** For what is no number. */
+    static void same(String what, Object got, Object want) {
+        if (!got.equals(want)) {
+            System.out.println(what + ": " + got + ", due is " + want);
+        }
+        is(what, got.equals(want) ? 1 : 0, 1);
+    }
+
     /** Closes a test's main method. */
     static void close() {
         System.out.println(asked + " answers asked for, " + wrong + " not as due");

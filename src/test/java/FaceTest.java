@@ -22,13 +22,6 @@ public final class FaceTest {
     private FaceTest() {
     }
 
-    private static void same(String what, Object got, Object want) {
-        if (!got.equals(want)) {
-            System.out.println(what + ": " + got + ", due is " + want);
-        }
-        Due.is(what, got.equals(want) ? 1 : 0, 1);
-    }
-
     private static boolean isOpen(Member m) {
         return !Modifier.isPrivate(m.getModifiers()) && !m.isSynthetic();
     }
@@ -42,22 +35,22 @@ public final class FaceTest {
     }
 
     private static void face() {
-        same("the class is public and final", CrookedFrames.class.getModifiers(),
+        Due.same("the class is public and final", CrookedFrames.class.getModifiers(),
                 Modifier.PUBLIC | Modifier.FINAL);
         Set<String> open = new TreeSet<>();
         for (Method m : CrookedFrames.class.getDeclaredMethods()) {
             if (isOpen(m)) {
                 open.add(m.getName() + "/" + m.getParameterCount());
-                same(m + " answers", m.getReturnType(), int.class);
-                same(m + " is public, not static", m.getModifiers(), Modifier.PUBLIC);
+                Due.same(m + " answers", m.getReturnType(), int.class);
+                Due.same(m + " is public, not static", m.getModifiers(), Modifier.PUBLIC);
                 for (Class<?> type : m.getParameterTypes()) {
-                    same(m + " takes", type, int.class);
+                    Due.same(m + " takes", type, int.class);
                 }
             }
         }
-        same("the face", open, new TreeSet<>(Arrays.asList(FACE.split(" "))));
-        same("constructors", CrookedFrames.class.getDeclaredConstructors().length, 1);
-        same("constructors, public", CrookedFrames.class.getConstructors().length, 1);
+        Due.same("the face", open, new TreeSet<>(Arrays.asList(FACE.split(" "))));
+        Due.same("constructors", CrookedFrames.class.getDeclaredConstructors().length, 1);
+        Due.same("constructors, public", CrookedFrames.class.getConstructors().length, 1);
     }
 
     private static void constants() {
@@ -67,7 +60,7 @@ public final class FaceTest {
                 open.add(f.getName());
             }
         }
-        same("constants", open, new TreeSet<>(Arrays.asList("BAD", "NO", "FULL", "NONE")));
+        Due.same("constants", open, new TreeSet<>(Arrays.asList("BAD", "NO", "FULL", "NONE")));
         Due.is("BAD", CrookedFrames.BAD, -1);
         Due.is("NO", CrookedFrames.NO, -2);
         Due.is("FULL", CrookedFrames.FULL, -3);
@@ -80,18 +73,18 @@ public final class FaceTest {
             face.add(name.substring(0, name.indexOf('/')));
         }
         Class<?>[] inside = CrookedFrames.class.getDeclaredClasses();
-        same("at most twelve classes", inside.length + 1 <= 12, true);
+        Due.same("at most twelve classes", inside.length + 1 <= 12, true);
         for (Class<?> c : inside) {
-            same(c + " is static", Modifier.isStatic(c.getModifiers()), true);
+            Due.same(c + " is static", Modifier.isStatic(c.getModifiers()), true);
             for (Method m : c.getDeclaredMethods()) {
-                same(m + " has a name of its own", face.contains(m.getName()), false);
-                same(m + " takes at most seven", m.getParameterCount() <= 7, true);
+                Due.same(m + " has a name of its own", face.contains(m.getName()), false);
+                Due.same(m + " takes at most seven", m.getParameterCount() <= 7, true);
             }
             fields(c);
         }
         for (Method m : CrookedFrames.class.getDeclaredMethods()) {
             if (!isOpen(m)) {
-                same(m + " has a name of its own", face.contains(m.getName()), false);
+                Due.same(m + " has a name of its own", face.contains(m.getName()), false);
             }
         }
         fields(CrookedFrames.class);
@@ -101,12 +94,12 @@ public final class FaceTest {
         int own = 0;
         for (Field f : c.getDeclaredFields()) {
             if (Modifier.isStatic(f.getModifiers())) {
-                same(f + " is final", Modifier.isFinal(f.getModifiers()), true);
+                Due.same(f + " is final", Modifier.isFinal(f.getModifiers()), true);
             } else {
                 own++;
             }
         }
-        same(c + " has at most twenty fields", own <= 20, true);
+        Due.same(c + " has at most twenty fields", own <= 20, true);
     }
 
     private static void source(String text) {
@@ -114,18 +107,18 @@ public final class FaceTest {
                 .replaceAll("\"[^\"\n]*\"", "\"\"");
         Matcher m = Pattern.compile("\\b(" + BANNED.replace("|->|::", "") + ")\\b|->|::").matcher(code);
         while (m.find()) {
-            same("the source keeps out", m.group(), "");
+            Due.same("the source keeps out", m.group(), "");
         }
         Matcher imports = Pattern.compile("import ([^;]*);").matcher(code);
         while (imports.find()) {
-            same("imports", imports.group(1), "java.util.Arrays");
+            Due.same("imports", imports.group(1), "java.util.Arrays");
         }
-        same("ASCII alone", text.chars().allMatch(c -> c < 128), true);
-        same("no package line", code.contains("package "), false);
+        Due.same("ASCII alone", text.chars().allMatch(c -> c < 128), true);
+        Due.same("no package line", code.contains("package "), false);
         // All rows are made with the object: no call makes any.
         Matcher made = Pattern.compile("(?m)^(?!.*(private .*=|rows).*).*\\bnew \\w+.*$").matcher(code);
         while (made.find()) {
-            same("made by a call", made.group().trim(), "");
+            Due.same("made by a call", made.group().trim(), "");
         }
     }
 }
