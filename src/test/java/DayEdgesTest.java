@@ -32,6 +32,7 @@ public final class DayEdgesTest {
         fewestOfNone();
         fewestOneOrTwo();
         fewestTwoOfOneFrame();
+        fewestOfDaysOneBehindTheOther();
         safeAtItsEdges();
         hangAtItsEdges();
         Due.close();
@@ -106,7 +107,17 @@ public final class DayEdgesTest {
         }
         Due.is("0 is ahead of 23", Due.laid("f0,40;p0,0;p0,0;w0,23,0;w1,0,0;").hers(0), 2);
         Due.is("of hour 23 as told", Due.laid("f0,40;p0,0;p0,0;w1,23,0;w0,23,0;").hers(0), 2);
-        // All ten of one hour, the last of a later hour told first.
+        // Told from the last hour to the first: each goes to his own room at his own hour.
+        CrookedFrames down = Due.laid("f0,40;f1,40;f2,40;f3,40;p0,0;p0,0;w0,9,0;w1,8,0;w0,7,1;w1,6,2;w0,5,2;w1,4,3;");
+        Due.is("hour 4, room 3", down.sets(1, 0), 3);
+        Due.is("hour 5, room 2", down.sets(0, 0), 2);
+        Due.is("hour 7, room 1", down.sets(0, 1), 1);
+        Due.is("hour 8, room 0", down.sets(1, 1), 0);
+        // Told behind two later hours, so that both go back by one.
+        CrookedFrames between = Due.laid("f0,40;f1,40;p0,0;p0,0;p0,0;w0,5,0;w1,9,1;w2,3,2;w2,7,0;w2,8,1;");
+        Due.is("hour 8 is ahead of 9", between.hers(0), 1 + 4);
+        Due.is("hour 8, room 1", between.sets(2, 0), 1);
+        // Comings of many hours, then all of one.
         CrookedFrames x = Due.laid("f0,40;p1,0;p1,0;p1,0;p1,0;p1,0;w4,9,0;w3,8,0;w2,8,0;w1,8,0;w0,8,0;"
                 + "w4,8,1;w3,7,1;w2,9,0;w1,9,0;w0,7,2;");
         Due.is("20, 10, 5, 2, 1", x.angle(0, 0), 40);
@@ -229,15 +240,17 @@ public final class DayEdgesTest {
     private static void turnsLeftOut() {
         for (int size = 1; size <= 8; size++) {
             for (int k = 0; k < size; k++) {
-                CrookedFrames x = Due.laid("f0,20;");
+                CrookedFrames x = Due.laid("f0,20;f0,20;f0,20;");
                 for (int n = 0; n < size; n++) {
-                    x.turn(n, 0, 30 + n);
+                    x.turn(n, n % 3, 30 + n);
                 }
                 Due.is("one beyond", x.leave(size), BAD);
                 Due.is("leave(" + k + ") of " + size, x.leave(k), size - 1);
                 for (int n = 0; n < size - 1; n++) {
-                    Due.is("night of " + n, x.told(n, 0), n < k ? n : n + 1);
-                    Due.is("turn of " + n, x.told(n, 2), 30 + (n < k ? n : n + 1));
+                    int was = n < k ? n : n + 1;
+                    Due.is("night of " + n, x.told(n, 0), was);
+                    Due.is("frame of " + n, x.told(n, 1), was % 3);
+                    Due.is("turn of " + n, x.told(n, 2), 30 + was);
                 }
                 Due.is("the last one is gone", x.told(size - 1, 0), BAD);
             }
@@ -327,6 +340,7 @@ public final class DayEdgesTest {
         Due.is("behind undo", x.hers(0), 0);
         x.turn(0, 0, 26);
         x.keep();
+        Due.is("behind turn again", x.hers(0), 1);
         x.leave(0);
         Due.is("behind leave", x.hers(0), 0);
         x.back();
@@ -368,7 +382,9 @@ public final class DayEdgesTest {
             Due.is(frames + " sway", Due.laid(text.toString()).sways(), frames);
         }
         Due.is("there and back in one night", Due.laid("f0,20;n5,0,21;n5,0,19;").sways(), 0);
-        Due.is("for one day", Due.laid("f0,20;n5,0,21;n6,0,19;").sways(), 1);
+        for (int night = 0; night < 30; night++) {
+            Due.is("for one day", Due.laid("f0,20;n" + night + ",0,21;n" + (night + 1) + ",0,19;").sways(), 1);
+        }
         Due.is("set right each day", Due.laid("f0,20;t0,10;p0,0;w0,0,0;").sways(), 0);
         Due.is("kept within from day 0 on", Due.laid("f0,40;n0,0,40;t0,10;").sways(), 0);
     }
@@ -476,6 +492,34 @@ public final class DayEdgesTest {
         Due.is("safe from one", x.safe(0), 2);
         CrookedFrames y = Due.laid("f0,40;n0,0,40;p0,0;p0,0;w0,0,0;w1,1,0;");
         Due.is("what tempts the second tempts the first", y.fewest(2, 0), NONE);
+    }
+
+    /** The second one needs a frame at 1, which one turn meets on day 0 and not on day 1. */
+    private static void fewestOfDaysOneBehindTheOther() {
+        String people = "p0,1;p0,0;w0,0,0;w1,1,0;";
+        String[] frames = {"f0,20;", "f0,39;", "f0,1;"};
+        for (String frame : frames) {
+            CrookedFrames x = Due.laid(frame + "n1,0,40;n1,0,40;" + people);
+            for (int n = 0; n < 2; n++) {
+                Due.is("near level", x.fewest(2, 0), 1);
+                Due.is("near level, not safe", x.safe(0) & 2, 0);
+                Due.is("at 40", x.fewest(2, 1), 2);
+                Due.is("at 40, safe", x.safe(1), 2);
+            }
+        }
+        // Another frame needs a turn, too: on day 1 that makes three.
+        CrookedFrames two = Due.laid("f1,20;f0,20;n1,1,40;n1,1,40;" + people + "p0,1;w2,0,1;");
+        Due.is("one of each", two.fewest(6, 0), 2);
+        Due.is("one and two", two.fewest(6, 1), NONE);
+        CrookedFrames turned = Due.laid("f0,20;f1,20;n1,0,40;n1,0,40;" + people + "p0,1;w2,0,1;");
+        Due.is("one of each", turned.fewest(6, 0), 2);
+        Due.is("two and one", turned.fewest(6, 1), NONE);
+        // Frame 0 must be borne by the first one, who then leaves frame 1 so that the third one minds it
+        // and the second does not: it is 40 to 20 by one turn, and he bears 10.
+        CrookedFrames freed = Due.laid("f0,40;f1,40;n0,0,40;n0,1,40;p3,5;p0,8;p0,3;w0,1,0;w0,2,1;w1,3,1;w2,4,1;");
+        Due.is("the first two", freed.hers(0), 3);
+        Due.is("the third one by two", freed.fewest(4, 0), 2);
+        Due.is("the third one is safe from one", freed.safe(0), 4);
     }
 
     // SAFE: PERSONS (bits) who are not HERS on a DAY and whom no single such TURN makes HERS on it.

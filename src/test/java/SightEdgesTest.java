@@ -341,6 +341,11 @@ public final class SightEdgesTest {
         Due.is("never, below", x.wire(27, 0, 6, 5, 5, 1), 1);
         Due.is("always", x.wire(26, 12, 6, 5, 5, 0), 1);
         Due.is("always, below", x.wire(26, 12, 6, 5, 5, 1), 1);
+        // 3 up, 3 down, 4 stays: level behind two nights by 4 4, 3 3, 3 3 of a hundred: 34.
+        Due.is("stays or comes back", x.wire(20, 0, 2, 3, 3, 0), 17);
+        Due.is("stays or comes back, below", x.wire(20, 0, 2, 3, 3, 1), 50);
+        Due.is("stays for six nights", x.wire(40, 20, 6, 3, 0, 0), 117649);
+        Due.is("stays for six nights, below", x.wire(40, 20, 6, 3, 0, 1), 1000000);
         Due.is("half and half, six nights", x.wire(20, 0, 6, 5, 5, 0), 5);
         Due.is("half and half, six nights, below", x.wire(20, 0, 6, 5, 5, 1), 16);
     }
