@@ -696,8 +696,9 @@ public final class CrookedFrames {
         private int size;
 
         Shelf(int most) {
-            rows = new Turns[most];
-            for (int n = 0; n < most; n++) {
+            // Never without a place, so that the first and the last place can be used unasked.
+            rows = new Turns[Math.max(1, most)];
+            for (int n = 0; n < rows.length; n++) {
                 rows[n] = new Turns();
             }
         }

@@ -34,6 +34,7 @@ public final class DayEdgesTest {
         fewestTwoOfOneFrame();
         fewestOfDaysOneBehindTheOther();
         safeAtItsEdges();
+        hersOnlyAsItHangs();
         hangAtItsEdges();
         Due.close();
     }
@@ -536,6 +537,20 @@ public final class DayEdgesTest {
         Due.is("all five never come", Due.laid("f0,40;p0,0;p0,0;p0,0;p0,0;p0,0;").safe(30), 31);
         Due.is("nobody there", Due.laid("f0,40;").safe(0), 0);
         Due.is("a room without frames", Due.laid("f0,40;p0,0;w0,0,1;").safe(0), 1);
+    }
+
+    /** He is hers, and every single turn more loses him: no turn tempts him, yet he is not safe. */
+    private static void hersOnlyAsItHangs() {
+        for (int side = -1; side <= 1; side += 2) {
+            // At 16 the one ahead levels it, at 14 he bears it himself, and 15 on the other side is 30 away.
+            CrookedFrames x = Due.laid("f0," + (20 + 15 * side) + ";p0,15;p0,14;w0,0,0;w1,1,0;");
+            Due.is("hers", x.hers(0), 2);
+            Due.is("no turn by which he is", x.tempt(1, 0), NONE);
+            Due.is("not safe, nor is the other one", x.safe(0), 0);
+            Due.is("it takes none", x.fewest(2, 0), 0);
+            Due.is("both at once: never", x.fewest(3, 0), NONE);
+            Due.is("the other one by a turn", x.tempt(0, 0), 20 + side);
+        }
     }
 
     // HANG: the least HAIRS, together .. ; how many FRAMES have to be.

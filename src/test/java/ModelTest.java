@@ -767,8 +767,44 @@ public final class ModelTest {
         System.out.println("fewest: " + java.util.Arrays.toString(answers));
     }
 
+    /** Two houses with much of everything, asked for all that can be asked of some days. */
+    private static void fullHouses() {
+        String[] texts = {"f0,33;f0,12;f1,20;f2,38;f2,1;f3,25;t0,3;t2,8;t4,5;t5,4;p0,3;p1,2;p2,4;p3,5;p1,0;"
+                + "w0,6,0;w0,12,2;w1,6,1;w2,9,2;w3,9,0;w3,10,3;w4,20,2;n0,1,40;n3,2,0;n5,5,35;c0,25;c3,18;",
+            "f0,40;f0,40;f0,40;f0,0;f0,0;f0,0;f0,20;t0,10;t1,10;t3,0;t4,0;p0,0;p1,0;p2,0;p3,0;p3,20;"
+                + "w0,0,0;w1,0,0;w2,0,0;w3,0,0;w4,0,0;w0,23,0;w1,23,0;w2,23,0;w3,23,0;w4,23,0;n30,6,0;"};
+        for (String text : texts) {
+            ModelTest y = new ModelTest();
+            y.text = text;
+            y.lay();
+            // An object for each kind of question, so that none is asked more than 512 times.
+            CrookedFrames[] x = {Due.laid(text), Due.laid(text), Due.laid(text), Due.laid(text)};
+            int[] some = {0, 1, 5, 30};
+            for (int day : some) {
+                for (int set = 0; set < 32; set++) {
+                    Due.is("fewest(" + set + ", " + day + ") of " + text, x[0].fewest(set, day), y.fewest(set, day));
+                }
+            }
+            for (int day = 0; day <= 30; day++) {
+                for (int k = 0; k < y.house.frames.size(); k++) {
+                    Due.is("angle(" + k + ", " + day + ") of " + text, x[1].angle(k, day), y.angle(k, day));
+                }
+                for (int i = 0; i < 5; i++) {
+                    Due.is("sets(" + i + ", " + day + ") of " + text, x[2].sets(i, day), y.sets(i, day));
+                    Due.is("tempt(" + i + ", " + day + ") of " + text, x[3].tempt(i, day), y.tempt(i, day));
+                }
+                Due.is("hers(" + day + ") of " + text, x[1].hers(day), y.hers(day));
+                Due.is("safe(" + day + ") of " + text, x[2].safe(day), y.safe(day));
+                Due.is("patches(" + day + ") of " + text, x[3].patches(day), y.patches(day));
+                Due.is("night(" + 333 * day + ", 0) of " + text, x[2].night(333 * day, 0), y.night(333 * day, 0));
+                Due.is("night(" + 333 * day + ", 1) of " + text, x[3].night(333 * day, 1), y.night(333 * day, 1));
+            }
+        }
+    }
+
     public static void main(String[] args) {
         smallHouses();
+        fullHouses();
         for (int run = 0; run < 1500; run++) {
             random = new Random(run);
             CrookedFrames x = new CrookedFrames();
